@@ -25,6 +25,7 @@ public final class PromisesTest {
         promise13States();
         promise14Reach();
         promise14ReachLimit();
+        promise14ReachJustTheLimit();
         promise15Picture();
         promise16Node();
         promise17Join();
@@ -207,6 +208,9 @@ public final class PromisesTest {
         checks.same("a right over its own cells", boards.slide(0, 0, 4), 1);
         checks.same("b is held by a", boards.slide(1, 2, 4), 0);
         looks("shapes", boards, ".aa.", ".ab.", "..bb");
+        checks.same("up not over the side", boards.slide(0, 3, 1), 0);
+        checks.same("down not over the side", boards.slide(1, 1, 1), 0);
+        looks("shapes are whole", boards, ".aa.", ".ab.", "..bb");
         SlideBoards apart = boardOf("a.a", ".b.", "...");
         checks.same("parts go together", apart.slide(0, 1, 9), 2);
         looks("parts passed by a block", apart, "...", ".b.", "a.a");
@@ -426,6 +430,13 @@ public final class PromisesTest {
         checks.same("reach of one kind in two shapes", shapes.reach(), 2);
         shapes.cell(1, 1, 1);
         checks.same("reach of a full board", shapes.reach(), 1);
+        SlideBoards passing = new SlideBoards(3, 3);
+        passing.block(4);
+        passing.block(4);
+        passing.cell(0, 0, 0);
+        passing.cell(0, 0, 1);
+        passing.cell(1, 2, 0);
+        checks.same("six places of the long one, seven of the short", passing.reach(), 42);
     }
 
     /** Three unlike single blocks on 22 open cells: 22 * 21 * 20 = 9,240 states; on 23 cells 10,626. */
@@ -450,6 +461,38 @@ public final class PromisesTest {
         checks.same("reach beyond the limit of alike blocks", alike.reach(), -2);
         alike.wall(3, 3, true);
         checks.same("eight alike blocks on 15 cells", alike.reach(), 6435);
+    }
+
+    /** Five alike single blocks and one of two cells apart; PlainBoards counts 10,000 states, too. */
+    private static void promise14ReachJustTheLimit() {
+        String[] rows = {"##.#a", "..#..", "..a..", "#...#", "#...#"};
+        int[] singles = {1, 2, 3, 4, 4, 1, 0, 2, 0, 1};
+        SlideBoards boards = boardOf(rows);
+        PlainBoards plain = new PlainBoards(5, 5);
+        plain.block(0);
+        plain.cell(0, 4, 0);
+        plain.cell(0, 2, 2);
+        for (int y = 0; y < 5; y++) {
+            for (int x = 0; x < 5; x++) {
+                if (rows[y].charAt(x) == '#') {
+                    plain.wall(x, y, true);
+                }
+            }
+        }
+        for (int i = 0; i < singles.length; i += 2) {
+            int block = boards.block(0);
+            boards.cell(block, singles[i], singles[i + 1]);
+            plain.block(0);
+            plain.cell(block, singles[i], singles[i + 1]);
+        }
+        looks("just the limit", boards, "##.#a", "a.#.a", "aaa..", "#...#", "#..a#");
+        checks.same("plainly counted", plain.reach(), 10000);
+        checks.same("reach just the limit", boards.reach(), 10000);
+        boards.kindGoal(1, 0, 0);
+        checks.same("search through just so many", boards.search(0, 10000), -1);
+        checks.same("states just so many", boards.states(), 10000);
+        checks.same("search through one less", boards.search(1, 9999), -2);
+        checks.same("states one less", boards.states(), 9999);
     }
 
     private static void promise15Picture() {
