@@ -279,8 +279,14 @@ final class PlainBoards {
     }
 
     int reach() {
-        explore(0, 10000, false);
-        return taken > 10000 ? -2 : taken;
+        int count = countStates(10000);
+        return count > 10000 ? -2 : count;
+    }
+
+    /** How many states can be come to; most + 1 when there are more than that. */
+    int countStates(int most) {
+        explore(0, most, false);
+        return taken;
     }
 
     int picture(int i) {

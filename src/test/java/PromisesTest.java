@@ -25,7 +25,6 @@ public final class PromisesTest {
         promise13States();
         promise14Reach();
         promise14ReachLimit();
-        promise14ReachJustTheLimit();
         promise15Picture();
         promise16Node();
         promise17Join();
@@ -39,64 +38,8 @@ public final class PromisesTest {
         checks.end();
     }
 
-    /** A board from rows: # a wall, letters blocks whose kinds and numbers both go by the alphabet. */
-    private static SlideBoards boardOf(String... rows) {
-        SlideBoards boards = new SlideBoards(rows[0].length(), rows.length);
-        for (char letter = 'a'; letter <= 'h'; letter++) {
-            if (String.join("", rows).indexOf(letter) >= 0) {
-                int block = boards.block(letter - 'a');
-                addCells(boards, block, letter, rows);
-            }
-        }
-        for (int y = 0; y < rows.length; y++) {
-            for (int x = 0; x < rows[y].length(); x++) {
-                if (rows[y].charAt(x) == '#') {
-                    boards.wall(x, y, true);
-                }
-            }
-        }
-        return boards;
-    }
-
-    private static void addCells(SlideBoards boards, int block, char letter, String... rows) {
-        for (int y = 0; y < rows.length; y++) {
-            for (int x = 0; x < rows[y].length(); x++) {
-                if (rows[y].charAt(x) == letter) {
-                    boards.cell(block, x, y);
-                }
-            }
-        }
-    }
-
-    private static String pictureOf(SlideBoards boards) {
-        StringBuilder text = new StringBuilder();
-        for (int i = 0; boards.picture(i) != -1; i++) {
-            text.append((char) boards.picture(i));
-        }
-        return text.toString();
-    }
-
     private static void looks(String what, SlideBoards boards, String... rows) {
-        checks.same(what, pictureOf(boards), String.join("\n", rows) + "\n");
-    }
-
-    private static SlideBoards graphOf(int nodes, int... ends) {
-        SlideBoards boards = new SlideBoards(1, 1);
-        for (int i = 0; i < nodes; i++) {
-            boards.node();
-        }
-        for (int i = 0; i + 1 < ends.length; i += 2) {
-            boards.join(ends[i], ends[i + 1]);
-        }
-        return boards;
-    }
-
-    private static String tilesOf(SlideBoards boards, int nodes) {
-        StringBuilder text = new StringBuilder();
-        for (int node = 0; node < nodes; node++) {
-            text.append(boards.tile(node));
-        }
-        return text.toString();
+        checks.same(what, Builders.pictureOf(boards), String.join("\n", rows) + "\n");
     }
 
     private static void promise1NewObject() {
@@ -116,7 +59,7 @@ public final class PromisesTest {
     }
 
     private static void promise2Wall() {
-        SlideBoards boards = boardOf("a..", "...");
+        SlideBoards boards = Builders.boardOf("a..", "...");
         checks.same("wall on", boards.wall(1, 0, true), true);
         checks.same("wall on again", boards.wall(1, 0, true), false);
         checks.same("wall in the corner", boards.wall(2, 1, true), true);
@@ -151,7 +94,7 @@ public final class PromisesTest {
     }
 
     private static void promise4Cell() {
-        SlideBoards boards = boardOf("#..", "..a");
+        SlideBoards boards = Builders.boardOf("#..", "..a");
         checks.same("cell of a wall", boards.cell(0, 0, 0), false);
         checks.same("cell of itself", boards.cell(0, 2, 1), false);
         checks.same("cell apart", boards.cell(0, 0, 1), true);
@@ -170,7 +113,7 @@ public final class PromisesTest {
     }
 
     private static void promise5Place() {
-        SlideBoards boards = boardOf("..a", "aa.", "..b");
+        SlideBoards boards = Builders.boardOf("..a", "aa.", "..b");
         checks.same("place is the least cell, not the leftmost", boards.place(0), 2);
         checks.same("place in the corner", boards.place(1), 8);
         boards.cell(0, 1, 0);
@@ -182,7 +125,7 @@ public final class PromisesTest {
     }
 
     private static void promise6Slide() {
-        SlideBoards boards = boardOf("a....", "....#", ".....", "..b..", ".....");
+        SlideBoards boards = Builders.boardOf("a....", "....#", ".....", "..b..", ".....");
         checks.same("right, two at most", boards.slide(0, 0, 2), 2);
         looks("right", boards, "..a..", "....#", ".....", "..b..", ".....");
         checks.same("down to the block", boards.slide(0, 1, GREATEST), 2);
@@ -204,14 +147,14 @@ public final class PromisesTest {
     }
 
     private static void promise6SlideShapes() {
-        SlideBoards boards = boardOf("aa..", "a.b.", "..bb");
+        SlideBoards boards = Builders.boardOf("aa..", "a.b.", "..bb");
         checks.same("a right over its own cells", boards.slide(0, 0, 4), 1);
         checks.same("b is held by a", boards.slide(1, 2, 4), 0);
         looks("shapes", boards, ".aa.", ".ab.", "..bb");
         checks.same("up not over the side", boards.slide(0, 3, 1), 0);
         checks.same("down not over the side", boards.slide(1, 1, 1), 0);
         looks("shapes are whole", boards, ".aa.", ".ab.", "..bb");
-        SlideBoards apart = boardOf("a.a", ".b.", "...");
+        SlideBoards apart = Builders.boardOf("a.a", ".b.", "...");
         checks.same("parts go together", apart.slide(0, 1, 9), 2);
         looks("parts passed by a block", apart, "...", ".b.", "a.a");
         checks.same("b between the parts", apart.slide(1, 1, 9), 1);
@@ -219,7 +162,7 @@ public final class PromisesTest {
     }
 
     private static void promise7Goal() {
-        SlideBoards boards = boardOf("a.#", "..b");
+        SlideBoards boards = Builders.boardOf("a.#", "..b");
         for (int g = 0; g < 6; g++) {
             checks.same("goal", boards.goal(g % 2, g % 3, g / 3), g);
         }
@@ -235,7 +178,7 @@ public final class PromisesTest {
     }
 
     private static void promise8KindGoal() {
-        SlideBoards boards = boardOf("a..", "..b");
+        SlideBoards boards = Builders.boardOf("a..", "..b");
         checks.noSuchIndex("kind goal x 3", () -> boards.kindGoal(0, 3, 0));
         checks.noSuchIndex("kind goal y -1", () -> boards.kindGoal(0, 0, -1));
         checks.noSuchArgument("kind goal -1", () -> boards.kindGoal(-1, 0, 0));
@@ -254,7 +197,7 @@ public final class PromisesTest {
     }
 
     private static void promise9NoGoals() {
-        SlideBoards boards = boardOf("a.");
+        SlideBoards boards = Builders.boardOf("a.");
         checks.same("no goals", boards.noGoals(), 0);
         boards.goal(0, 1, 0);
         boards.kindGoal(0, 1, 0);
@@ -264,7 +207,7 @@ public final class PromisesTest {
     }
 
     private static void promise10Open() {
-        SlideBoards boards = boardOf(".aa", "b..");
+        SlideBoards boards = Builders.boardOf(".aa", "b..");
         checks.same("open without goals", boards.open(), -1);
         boards.goal(0, 1, 0);
         checks.same("open: the place counts", boards.open(), -1);
@@ -287,7 +230,7 @@ public final class PromisesTest {
     }
 
     private static void promise11Search() {
-        SlideBoards boards = boardOf("a#.", "...");
+        SlideBoards boards = Builders.boardOf("a#.", "...");
         boards.goal(0, 2, 0);
         checks.same("steps", boards.search(0, 10000), 4);
         checks.same("slides", boards.search(1, 10000), 3);
@@ -299,7 +242,7 @@ public final class PromisesTest {
         checks.same("met at once", boards.search(1, 1), 0);
         boards.kindGoal(3, 0, 0);
         checks.same("a kind without blocks", boards.search(1, 10000), -1);
-        SlideBoards two = boardOf("ab.", "...");
+        SlideBoards two = Builders.boardOf("ab.", "...");
         two.goal(0, 1, 0);
         two.goal(1, 0, 0);
         checks.same("change places: a down, b left, a right, a up", two.search(0, 10000), 4);
@@ -307,7 +250,7 @@ public final class PromisesTest {
     }
 
     private static void promise11SearchLimits() {
-        SlideBoards boards = boardOf("a....");
+        SlideBoards boards = Builders.boardOf("a....");
         boards.goal(0, 4, 0);
         checks.same("enough", boards.search(0, 5), 4);
         checks.same("one too few", boards.search(0, 4), -2);
@@ -343,13 +286,13 @@ public final class PromisesTest {
     }
 
     private static void promise11SearchOrder() {
-        SlideBoards boards = boardOf("...", ".a.", "...");
+        SlideBoards boards = Builders.boardOf("...", ".a.", "...");
         boards.goal(0, 2, 2);
         checks.same("to the corner", boards.search(0, 10000), 2);
         checks.same("right is before down", boards.step(0), 32);
         checks.same("then down", boards.step(1), 33);
         checks.same("present, four ways, up to the corner", boards.states(), 6);
-        SlideBoards blocks = boardOf("a..", "b..");
+        SlideBoards blocks = Builders.boardOf("a..", "b..");
         blocks.goal(0, 1, 0);
         blocks.goal(1, 1, 1);
         checks.same("both to the right", blocks.search(0, 10000), 2);
@@ -358,7 +301,7 @@ public final class PromisesTest {
     }
 
     private static void promise12Step() {
-        SlideBoards boards = boardOf("b#.", "..a");
+        SlideBoards boards = Builders.boardOf("b#.", "..a");
         checks.same("step before a search", boards.step(0), -1);
         boards.slide(0, 2, 1);
         boards.goal(1, 2, 0);
@@ -381,14 +324,14 @@ public final class PromisesTest {
         checks.same("step 0 stays", boards.step(0), 37);
         checks.same("met", boards.search(0, 1), 0);
         checks.same("no step is needed", boards.step(0), -1);
-        SlideBoards far = boardOf("a....");
+        SlideBoards far = Builders.boardOf("a....");
         far.goal(0, 4, 0);
         far.search(1, 100);
         checks.same("four steps are one move", far.step(0), 128);
     }
 
     private static void promise13States() {
-        SlideBoards boards = boardOf("a....");
+        SlideBoards boards = Builders.boardOf("a....");
         checks.same("states before", boards.states(), 0);
         boards.goal(0, 2, 0);
         boards.search(0, 100);
@@ -409,10 +352,10 @@ public final class PromisesTest {
 
     private static void promise14Reach() {
         checks.same("reach without blocks", new SlideBoards(4, 4).reach(), 1);
-        checks.same("reach of one block", boardOf("a..", "..#").reach(), 5);
-        checks.same("reach of unlike blocks in a row", boardOf("a.b.").reach(), 6);
-        checks.same("reach of unlike blocks", boardOf("ab", "..").reach(), 12);
-        checks.same("reach shut in", boardOf("a#.").reach(), 1);
+        checks.same("reach of one block", Builders.boardOf("a..", "..#").reach(), 5);
+        checks.same("reach of unlike blocks in a row", Builders.boardOf("a.b.").reach(), 6);
+        checks.same("reach of unlike blocks", Builders.boardOf("ab", "..").reach(), 12);
+        checks.same("reach shut in", Builders.boardOf("a#.").reach(), 1);
         SlideBoards alike = new SlideBoards(2, 2);
         alike.block(4);
         alike.block(4);
@@ -441,7 +384,7 @@ public final class PromisesTest {
 
     /** Three unlike single blocks on 22 open cells: 22 * 21 * 20 = 9,240 states; on 23 cells 10,626. */
     private static void promise14ReachLimit() {
-        SlideBoards boards = boardOf("abc..", ".....", ".....", ".....", "..###");
+        SlideBoards boards = Builders.boardOf("abc..", ".....", ".....", ".....", "..###");
         checks.same("reach below the limit", boards.reach(), 9240);
         boards.wall(2, 4, false);
         checks.same("reach beyond the limit", boards.reach(), -2);
@@ -463,38 +406,6 @@ public final class PromisesTest {
         checks.same("eight alike blocks on 15 cells", alike.reach(), 6435);
     }
 
-    /** Five alike single blocks and one of two cells apart; PlainBoards counts 10,000 states, too. */
-    private static void promise14ReachJustTheLimit() {
-        String[] rows = {"##.#a", "..#..", "..a..", "#...#", "#...#"};
-        int[] singles = {1, 2, 3, 4, 4, 1, 0, 2, 0, 1};
-        SlideBoards boards = boardOf(rows);
-        PlainBoards plain = new PlainBoards(5, 5);
-        plain.block(0);
-        plain.cell(0, 4, 0);
-        plain.cell(0, 2, 2);
-        for (int y = 0; y < 5; y++) {
-            for (int x = 0; x < 5; x++) {
-                if (rows[y].charAt(x) == '#') {
-                    plain.wall(x, y, true);
-                }
-            }
-        }
-        for (int i = 0; i < singles.length; i += 2) {
-            int block = boards.block(0);
-            boards.cell(block, singles[i], singles[i + 1]);
-            plain.block(0);
-            plain.cell(block, singles[i], singles[i + 1]);
-        }
-        looks("just the limit", boards, "##.#a", "a.#.a", "aaa..", "#...#", "#..a#");
-        checks.same("plainly counted", plain.reach(), 10000);
-        checks.same("reach just the limit", boards.reach(), 10000);
-        boards.kindGoal(1, 0, 0);
-        checks.same("search through just so many", boards.search(0, 10000), -1);
-        checks.same("states just so many", boards.states(), 10000);
-        checks.same("search through one less", boards.search(1, 9999), -2);
-        checks.same("states one less", boards.states(), 9999);
-    }
-
     private static void promise15Picture() {
         SlideBoards boards = new SlideBoards(3, 2);
         boards.block(25);
@@ -514,12 +425,12 @@ public final class PromisesTest {
     }
 
     private static void promise16Node() {
-        SlideBoards boards = graphOf(3, 0, 1, 1, 2);
+        SlideBoards boards = Builders.graphOf(3, 0, 1, 1, 2);
         boards.shift(1);
         boards.swap(0, 2);
-        checks.same("tiles moved", tilesOf(boards, 3), "201");
+        checks.same("tiles moved", Builders.tilesOf(boards, 3), "201");
         checks.same("node", boards.node(), 3);
-        checks.same("tiles at home again", tilesOf(boards, 4), "0123");
+        checks.same("tiles at home again", Builders.tilesOf(boards, 4), "0123");
         checks.same("lines stay", boards.join(0, 1), false);
         checks.same("the new node has none", boards.shift(3), false);
         for (int n = 4; n < 8; n++) {
@@ -527,11 +438,11 @@ public final class PromisesTest {
         }
         boards.swap(3, 7);
         checks.same("node too many", boards.node(), -1);
-        checks.same("then tiles stay", tilesOf(boards, 8), "01274563");
+        checks.same("then tiles stay", Builders.tilesOf(boards, 8), "01274563");
     }
 
     private static void promise17Join() {
-        SlideBoards boards = graphOf(3);
+        SlideBoards boards = Builders.graphOf(3);
         checks.same("join", boards.join(0, 2), true);
         checks.same("join again", boards.join(0, 2), false);
         checks.same("join the other way round", boards.join(2, 0), false);
@@ -545,59 +456,59 @@ public final class PromisesTest {
     }
 
     private static void promise18Tile() {
-        SlideBoards boards = graphOf(2);
+        SlideBoards boards = Builders.graphOf(2);
         checks.same("tile 0", boards.tile(0), 0);
         checks.same("tile 1", boards.tile(1), 1);
         checks.noSuchIndex("tile -1", () -> boards.tile(-1));
         checks.noSuchIndex("tile 2", () -> boards.tile(2));
         checks.noSuchIndex("tile greatest", () -> boards.tile(GREATEST));
-        checks.noSuchIndex("tile without nodes", () -> graphOf(0).tile(0));
+        checks.noSuchIndex("tile without nodes", () -> Builders.graphOf(0).tile(0));
     }
 
     private static void promise19Shift() {
-        SlideBoards boards = graphOf(4, 0, 1, 1, 2);
+        SlideBoards boards = Builders.graphOf(4, 0, 1, 1, 2);
         checks.same("shift far off", boards.shift(2), false);
         checks.same("shift the gap", boards.shift(0), false);
         checks.same("shift not joined", boards.shift(3), false);
-        checks.same("nothing was done", tilesOf(boards, 4), "0123");
+        checks.same("nothing was done", Builders.tilesOf(boards, 4), "0123");
         checks.same("shift 1", boards.shift(1), true);
         checks.same("shift 2", boards.shift(2), true);
-        checks.same("shifted", tilesOf(boards, 4), "1203");
+        checks.same("shifted", Builders.tilesOf(boards, 4), "1203");
         checks.same("shift the gap again", boards.shift(2), false);
         checks.same("shift from afar", boards.shift(0), false);
         checks.noSuchIndex("shift -1", () -> boards.shift(-1));
         checks.noSuchIndex("shift 4", () -> boards.shift(4));
-        checks.noSuchIndex("shift without nodes", () -> graphOf(0).shift(0));
+        checks.noSuchIndex("shift without nodes", () -> Builders.graphOf(0).shift(0));
     }
 
     private static void promise20Swap() {
-        SlideBoards boards = graphOf(3, 0, 1);
+        SlideBoards boards = Builders.graphOf(3, 0, 1);
         checks.same("swap", boards.swap(0, 2), true);
-        checks.same("swapped", tilesOf(boards, 3), "210");
+        checks.same("swapped", Builders.tilesOf(boards, 3), "210");
         checks.same("swap joined ones", boards.swap(1, 0), true);
-        checks.same("swapped again", tilesOf(boards, 3), "120");
+        checks.same("swapped again", Builders.tilesOf(boards, 3), "120");
         checks.same("swap one", boards.swap(1, 1), false);
         checks.noSuchIndex("swap -1", () -> boards.swap(-1, 0));
         checks.noSuchIndex("swap with 3", () -> boards.swap(0, 3));
         checks.noSuchIndex("swap no node with itself", () -> boards.swap(3, 3));
-        checks.same("no more was swapped", tilesOf(boards, 3), "120");
+        checks.same("no more was swapped", Builders.tilesOf(boards, 3), "120");
     }
 
     private static void promise21Even() {
-        checks.same("even without nodes", graphOf(0).even(), true);
-        checks.same("even without lines", graphOf(8).even(), true);
-        checks.same("even square", graphOf(4, 0, 1, 1, 2, 2, 3, 3, 0).even(), true);
-        checks.same("odd triangle", graphOf(3, 0, 1, 1, 2, 2, 0).even(), false);
-        checks.same("odd ring of five", graphOf(5, 0, 3, 3, 1, 1, 4, 4, 2, 2, 0).even(), false);
-        checks.same("odd far from the gap", graphOf(8, 0, 1, 5, 6, 6, 7, 7, 5).even(), false);
-        checks.same("even in two parts", graphOf(6, 0, 5, 5, 3, 1, 4, 4, 2).even(), true);
+        checks.same("even without nodes", Builders.graphOf(0).even(), true);
+        checks.same("even without lines", Builders.graphOf(8).even(), true);
+        checks.same("even square", Builders.graphOf(4, 0, 1, 1, 2, 2, 3, 3, 0).even(), true);
+        checks.same("odd triangle", Builders.graphOf(3, 0, 1, 1, 2, 2, 0).even(), false);
+        checks.same("odd ring of five", Builders.graphOf(5, 0, 3, 3, 1, 1, 4, 4, 2, 2, 0).even(), false);
+        checks.same("odd far from the gap", Builders.graphOf(8, 0, 1, 5, 6, 6, 7, 7, 5).even(), false);
+        checks.same("even in two parts", Builders.graphOf(6, 0, 5, 5, 3, 1, 4, 4, 2).even(), true);
     }
 
     private static void promise22Parity() {
-        checks.same("parity without nodes", graphOf(0).parity(), -1);
-        checks.same("parity odd graph", graphOf(3, 0, 1, 1, 2, 2, 0).parity(), -1);
-        checks.same("parity of one node", graphOf(1).parity(), 0);
-        SlideBoards path = graphOf(4, 0, 1, 1, 2, 2, 3);
+        checks.same("parity without nodes", Builders.graphOf(0).parity(), -1);
+        checks.same("parity odd graph", Builders.graphOf(3, 0, 1, 1, 2, 2, 0).parity(), -1);
+        checks.same("parity of one node", Builders.graphOf(1).parity(), 0);
+        SlideBoards path = Builders.graphOf(4, 0, 1, 1, 2, 2, 3);
         for (int node = 1; node < 4; node++) {
             checks.same("shift", path.shift(node), true);
             checks.same("parity stays", path.parity(), 0);
@@ -605,48 +516,48 @@ public final class PromisesTest {
         path.swap(0, 1);
         checks.same("parity after a swap", path.parity(), 1);
         // The gap's part has nodes 1, 2 and 3; its least node is 1, two lines from 3 over 2.
-        SlideBoards parts = graphOf(4, 1, 2, 2, 3);
+        SlideBoards parts = Builders.graphOf(4, 1, 2, 2, 3);
         parts.swap(0, 3);
         checks.same("five pairs and two lines", parts.parity(), 1);
         parts.shift(2);
-        checks.same("tiles 3102: four pairs and one line", tilesOf(parts, 4) + parts.parity(), "31021");
+        checks.same("tiles 3102: four pairs and one line", Builders.tilesOf(parts, 4) + parts.parity(), "31021");
         parts.shift(1);
-        checks.same("tiles 3012: three pairs and no line", tilesOf(parts, 4) + parts.parity(), "30121");
-        SlideBoards alone = graphOf(2);
+        checks.same("tiles 3012: three pairs and no line", Builders.tilesOf(parts, 4) + parts.parity(), "30121");
+        SlideBoards alone = Builders.graphOf(2);
         alone.swap(0, 1);
         checks.same("one pair, no line", alone.parity(), 1);
     }
 
     private static void promise23Ways() {
-        checks.same("ways without nodes", graphOf(0).ways(), 0);
-        checks.same("ways of one node", graphOf(1).ways(), 1);
-        checks.same("ways without lines", graphOf(8).ways(), 1);
-        checks.same("ways of a path", graphOf(4, 0, 1, 1, 2, 2, 3).ways(), 4);
-        checks.same("ways of a triangle", graphOf(3, 0, 1, 1, 2, 2, 0).ways(), 6);
-        checks.same("ways of a square", graphOf(4, 0, 1, 1, 2, 2, 3, 3, 0).ways(), 12);
-        checks.same("ways of two by three", graphOf(6, 0, 1, 1, 2, 3, 4, 4, 5, 0, 3, 1, 4, 2, 5).ways(), 360);
+        checks.same("ways without nodes", Builders.graphOf(0).ways(), 0);
+        checks.same("ways of one node", Builders.graphOf(1).ways(), 1);
+        checks.same("ways without lines", Builders.graphOf(8).ways(), 1);
+        checks.same("ways of a path", Builders.graphOf(4, 0, 1, 1, 2, 2, 3).ways(), 4);
+        checks.same("ways of a triangle", Builders.graphOf(3, 0, 1, 1, 2, 2, 0).ways(), 6);
+        checks.same("ways of a square", Builders.graphOf(4, 0, 1, 1, 2, 2, 3, 3, 0).ways(), 12);
+        checks.same("ways of two by three", Builders.graphOf(6, 0, 1, 1, 2, 3, 4, 4, 5, 0, 3, 1, 4, 2, 5).ways(), 360);
         checks.same("ways of two by four",
-                graphOf(8, 0, 1, 1, 2, 2, 3, 4, 5, 5, 6, 6, 7, 0, 4, 1, 5, 2, 6, 3, 7).ways(), 20160);
+                Builders.graphOf(8, 0, 1, 1, 2, 2, 3, 4, 5, 5, 6, 6, 7, 0, 4, 1, 5, 2, 6, 3, 7).ways(), 20160);
         checks.same("ways of a ring of six with a node between",
-                graphOf(7, 0, 1, 1, 2, 2, 3, 3, 4, 4, 5, 5, 0, 0, 6, 6, 3).ways(), 840);
-        SlideBoards parts = graphOf(5, 0, 1, 2, 3, 3, 4, 4, 2);
+                Builders.graphOf(7, 0, 1, 1, 2, 2, 3, 3, 4, 4, 5, 5, 0, 0, 6, 6, 3).ways(), 840);
+        SlideBoards parts = Builders.graphOf(5, 0, 1, 2, 3, 3, 4, 4, 2);
         checks.same("ways in the gap's part", parts.ways(), 2);
         parts.swap(0, 2);
         checks.same("ways in the other part", parts.ways(), 6);
-        checks.same("ways shift nothing", tilesOf(parts, 5), "21034");
+        checks.same("ways shift nothing", Builders.tilesOf(parts, 5), "21034");
     }
 
     private static void promise24Home() {
-        checks.same("home without nodes", graphOf(0).home(), true);
-        checks.same("home at once", graphOf(8).home(), true);
-        SlideBoards path = graphOf(3, 0, 1, 1, 2);
+        checks.same("home without nodes", Builders.graphOf(0).home(), true);
+        checks.same("home at once", Builders.graphOf(8).home(), true);
+        SlideBoards path = Builders.graphOf(3, 0, 1, 1, 2);
         path.shift(1);
         path.shift(2);
         checks.same("home along a path", path.home(), true);
-        checks.same("home shifts nothing", tilesOf(path, 3), "120");
+        checks.same("home shifts nothing", Builders.tilesOf(path, 3), "120");
         path.swap(0, 1);
         checks.same("no home along a path", path.home(), false);
-        SlideBoards square = graphOf(4, 0, 1, 1, 2, 2, 3, 3, 0);
+        SlideBoards square = Builders.graphOf(4, 0, 1, 1, 2, 2, 3, 3, 0);
         square.swap(1, 2);
         checks.same("no home after one swap", square.home(), false);
         square.swap(2, 3);
@@ -654,7 +565,7 @@ public final class PromisesTest {
         square.join(0, 2);
         square.swap(1, 2);
         checks.same("home with a line across", square.home(), true);
-        SlideBoards parts = graphOf(4, 0, 1, 2, 3);
+        SlideBoards parts = Builders.graphOf(4, 0, 1, 2, 3);
         parts.swap(0, 2);
         checks.same("no home from another part", parts.home(), false);
         parts.swap(0, 2);
