@@ -6,6 +6,9 @@ import java.util.Random;
 public final class RandomRunsTest {
     private static final int BOARD_RUNS = 1500;
     private static final int GRAPH_RUNS = 1000;
+    private static final int LONG_RUNS = 40;
+    /** "An object is used for at most 512 calls after it has been made" */
+    private static final int CALLS_MOST = 512;
 
     private final Checks checks = new Checks();
     private final Random random;
@@ -15,10 +18,10 @@ public final class RandomRunsTest {
     private final int height;
     private final List<String> told = new ArrayList<>();
 
-    private RandomRunsTest(int seed) {
+    private RandomRunsTest(int seed, int leastSide) {
         random = new Random(seed);
-        width = random.nextInt(7);
-        height = random.nextInt(7);
+        width = leastSide + random.nextInt(7 - leastSide);
+        height = leastSide + random.nextInt(7 - leastSide);
         boards = new SlideBoards(width, height);
         plain = new PlainBoards(width, height);
         told.add("new(" + width + ", " + height + ")");
@@ -27,7 +30,7 @@ public final class RandomRunsTest {
     public static void main(String[] args) {
         Checks all = new Checks();
         for (int seed = 0; seed < BOARD_RUNS + GRAPH_RUNS; seed++) {
-            RandomRunsTest run = new RandomRunsTest(seed);
+            RandomRunsTest run = new RandomRunsTest(seed, 0);
             if (seed < BOARD_RUNS) {
                 run.playBoard();
             } else {
@@ -35,10 +38,61 @@ public final class RandomRunsTest {
             }
             all.same("run " + seed + " wrong answers", run.checks.wrong(), 0);
         }
+        for (int seed = 0; seed < LONG_RUNS; seed++) {
+            RandomRunsTest one = new RandomRunsTest(2 * seed, 3);
+            RandomRunsTest other = new RandomRunsTest(2 * seed + 1, 3);
+            playInTurns(one, other);
+            all.same("long run " + seed + " wrong answers", one.checks.wrong() + other.checks.wrong(), 0);
+        }
         all.end();
     }
 
+    /** Two objects get 512 calls each, in turns and of all sorts: neither shows what was done to the other. */
+    private static void playInTurns(RandomRunsTest one, RandomRunsTest other) {
+        one.layBoard(2);
+        other.layBoard(3);
+        one.layGraph(6);
+        other.layGraph(8);
+        while (one.callsLeft() > 0 || other.callsLeft() > 0) {
+            one.callAny(2, 6);
+            other.callAny(3, 8);
+        }
+    }
+
+    private int callsLeft() {
+        return CALLS_MOST + 1 - told.size();
+    }
+
+    private void callAny(int kinds, int nodes) {
+        switch (random.nextInt(8)) {
+            case 0:
+            case 1:
+            case 2:
+                callBoard(kinds);
+                break;
+            case 3:
+            case 4:
+                callGraph(nodes);
+                break;
+            case 5:
+                int at = near(30);
+                compare("picture(" + at + ")", () -> boards.picture(at), () -> plain.picture(at));
+                break;
+            case 6:
+                int block = near(6);
+                compare("place(" + block + ")", () -> boards.place(block), () -> plain.place(block));
+                break;
+            default:
+                int node = near(nodes);
+                compare("tile(" + node + ")", () -> boards.tile(node), () -> plain.tile(node));
+                break;
+        }
+    }
+
     private void compare(String call, Checks.Call ours, Checks.Call due) {
+        if (callsLeft() == 0) {
+            return;
+        }
         told.add(call);
         Object got = Checks.outcomeOf(ours);
         Object want = Checks.outcomeOf(due);
@@ -50,19 +104,23 @@ public final class RandomRunsTest {
         return random.nextInt(12) == 0 ? random.nextInt(below + 4) - 2 : random.nextInt(Math.max(1, below));
     }
 
-    private void playBoard() {
+    private void layBoard(int kinds) {
         int walls = random.nextInt(5);
         for (int i = 0; i < walls; i++) {
             callWall();
         }
         int cells = random.nextInt(12);
-        int kinds = 1 + random.nextInt(3);
         for (int i = 0; i < cells; i++) {
             if (i == 0 || random.nextInt(2) == 0) {
                 callBlock(kinds);
             }
             callCell();
         }
+    }
+
+    private void playBoard() {
+        int kinds = 1 + random.nextInt(3);
+        layBoard(kinds);
         for (int i = 0; i < 40; i++) {
             callBoard(kinds);
         }
@@ -175,9 +233,7 @@ public final class RandomRunsTest {
         }
     }
 
-    private void playGraph() {
-        compareGraph();
-        int nodes = random.nextInt(10);
+    private void layGraph(int nodes) {
         for (int i = 0; i < nodes; i++) {
             compare("node()", boards::node, plain::node);
         }
@@ -185,6 +241,12 @@ public final class RandomRunsTest {
         for (int i = 0; i < lines; i++) {
             callPair(nodes, 0);
         }
+    }
+
+    private void playGraph() {
+        compareGraph();
+        int nodes = random.nextInt(10);
+        layGraph(nodes);
         for (int i = 0; i < 25; i++) {
             callGraph(nodes);
         }
